@@ -129,6 +129,7 @@ public final class Promises {
         due("counter stays", x.counter(2), 8);
         due("variable stays", x.variable(1, 3), 7);
         due("steps stay", x.steps(0), 3);
+        due("what ran stays", x.ran(0) * 100 + x.ran(1) * 10 + x.ran(4), 162);
         due("done stays", x.done(5), 2);
         due("token after wipe", x.token(8, 0), 1);
     }
@@ -463,6 +464,10 @@ public final class Promises {
         raced("IF = THREAD NUM:0 STORE NUM:0 NUM:1 ELSE SET:0 WORD NUM:0 END", 2, 1);
         raced("IF = THREAD NUM:0 STORE NUM:0 NUM:1 BARRIER ELSE BARRIER SET:0 WORD NUM:0 END", 2, 0);
         raced("IF = THREAD NUM:1 STORE NUM:0 NUM:1 END BARRIER SET:0 WORD NUM:0", 5, 0);
+        raced("IF THREAD SET:0 WORD NUM:0 BARRIER ELSE BARRIER STORE NUM:0 NUM:1 END", 2, 0);
+        raced("IF THREAD STORE NUM:0 WORD NUM:0 ELSE SET:0 WORD NUM:0 END", 2, 1);
+        raced("STORE NUM:0 NUM:1 IF THREAD SET:0 WORD NUM:0 END", 2, 1);
+        raced("STORE NUM:0 NUM:1 SET:0 WORD NUM:0", 2, 1);
         raced("STORE NUM:0 NUM:1 BARRIER STORE NUM:0 NUM:1 STORE NUM:9 NUM:1", 2, 3);
         raced("STORE WORD NUM:3 NUM:1", 2, 1);
         raced("IF THREAD STORE NUM:7 NUM:1 ELSE STORE WORD NUM:7 NUM:1 END", 2, 1);
