@@ -1,87 +1,102 @@
 import java.util.ArrayList;
 import java.util.List;
+import java.util.function.Consumer;
 
 /**
  * Compares WarpDesk with a model that is built in another way: it parses by recursive descent, and it does a phase of a
  * thread by doing the whole program again from its start, with what was read in earlier phases played back.
  */
 public final class AgainstModel {
-    private static final int PROGRAMS = 6000;
+    private static final int PROGRAMS = 4000;
     private static final int[] NUMBERS = {0, 1, 2, 3, -1, 5, 63, 64, 31, 100, Integer.MIN_VALUE, Integer.MAX_VALUE};
 
-    private static int failures = 0;
     private static long seed = 20261116L;
 
     public static void main(String[] args) {
-        int programs = 0;
+        Checks.begin();
+        int runs = 0;
         int overs = 0;
         int races = 0;
-        for (int i = 0; i < PROGRAMS && failures < 20; i++) {
-            WarpDesk desk = new WarpDesk();
+        for (int i = 0; i < PROGRAMS && !Checks.tooMany(); i++) {
+            List<Consumer<Desk>> calls = new ArrayList<>();
             Model model = new Model();
             for (int round = 0; round < 3; round++) {
-                write(desk, model);
+                write(calls, model);
                 String where = "program " + i + "." + round + " " + model.tokens;
-                due(where, "wrong", desk.wrong(), model.wrong());
                 for (int again = 0; again < 2; again++) {
-                    touchMemory(where, desk, model);
-                    int n = below(12) == 0 ? below(36) - 1 : 1 + below(below(4) == 0 ? 32 : 6);
-                    int arg = NUMBERS[below(NUMBERS.length)];
-                    int answer = model.run(n, arg);
-                    due(where, "run(" + n + ", " + arg + ")", desk.run(n, arg), answer);
-                    compare(where, desk, model);
-                    programs += answer == WarpDesk.NONE ? 0 : 1;
+                    touchMemory(calls, model);
+                    int answer = run(where, calls, model);
+                    compareInTwo(where, calls, model);
+                    runs += answer == WarpDesk.NONE ? 0 : 1;
                     overs += answer == WarpDesk.OVER ? 1 : 0;
                     races += model.races > 0 ? 1 : 0;
                 }
-                due(where, "wipe", desk.wipe(), model.tokens.size());
+                calls.add(Desk::wipe);
                 model.tokens.clear();
             }
         }
-        System.out.println(programs + " runs, " + overs + " of them over, " + races + " looks at a run with races");
-        if (failures != 0) {
-            System.exit(1);
-        }
-        System.out.println("the model answers the same");
+        System.out.println(runs + " runs, " + overs + " of them over, " + races + " looks at a run with races");
+        Checks.end();
     }
 
-    private static void touchMemory(String where, WarpDesk desk, Model model) {
+    private static void touchMemory(List<Consumer<Desk>> calls, Model model) {
         if (below(8) == 0) {
-            desk.zero();
+            calls.add(Desk::zero);
             model.words = new int[64];
             model.counters = new int[64];
         }
         int index = below(8) - 2;
         int v = NUMBERS[below(NUMBERS.length)];
-        due(where, "put", desk.put(index, v), model.words[Math.floorMod(index, 64)]);
+        int before = model.words[Math.floorMod(index, 64)];
+        calls.add(desk -> Checks.due("put", desk.put(index, v), before));
         model.words[Math.floorMod(index, 64)] = v;
     }
 
-    private static void compare(String where, WarpDesk desk, Model model) {
-        for (int i = 0; i < 64; i++) {
-            due(where, "word " + i, desk.word(i), model.words[i]);
-            due(where, "counter " + i, desk.counter(i), model.counters[i]);
-            due(where, "done " + i, desk.done(i), model.done[i]);
+    private static int run(String where, List<Consumer<Desk>> calls, Model model) {
+        int n = below(12) == 0 ? below(36) - 1 : 1 + below(below(4) == 0 ? 32 : 6);
+        int arg = NUMBERS[below(NUMBERS.length)];
+        int fault = model.wrong();
+        int answer = model.run(n, arg);
+        calls.add(desk -> Checks.due(where + ": wrong", desk.wrong(), fault));
+        calls.add(desk -> Checks.due(where + ": run(" + n + ", " + arg + ")", desk.run(n, arg), answer));
+        return answer;
+    }
+
+    // Two objects that had the same calls, since all questions to one would go beyond its 512 calls.
+    private static void compareInTwo(String where, List<Consumer<Desk>> calls, Model model) {
+        Desk first = new Desk();
+        Desk second = new Desk();
+        for (Consumer<Desk> call : calls) {
+            call.accept(first);
+            call.accept(second);
         }
+        compareMemory(where, first, model);
+        compareRun(where, second, model);
+    }
+
+    private static void compareMemory(String where, Desk desk, Model model) {
+        for (int i = 0; i < 64; i++) {
+            Checks.due(where + ": word " + i, desk.word(i), model.words[i]);
+            Checks.due(where + ": counter " + i, desk.counter(i), model.counters[i]);
+            Checks.due(where + ": done " + i, desk.done(i), model.done[i]);
+        }
+        Checks.due(where + ": wipe", desk.wipe(), model.tokens.size());
+    }
+
+    private static void compareRun(String where, Desk desk, Model model) {
         int all = 0;
         int most = 0;
         for (int t = 0; t < 32; t++) {
             for (int v = 0; v < 6; v++) {
-                due(where, "variable " + v + " of " + t, desk.variable(t, v), model.variables[t][v]);
+                Checks.due(where + ": variable " + v + " of " + t, desk.variable(t, v), model.variables[t][v]);
             }
-            due(where, "steps " + t, desk.steps(t), model.steps[t]);
+            Checks.due(where + ": steps " + t, desk.steps(t), model.steps[t]);
             all += model.steps[t];
             most = Math.max(most, model.steps[t]);
         }
         int[] want = {model.phases, all, most, model.races, model.threads};
         for (int what = 0; what < 5; what++) {
-            due(where, "ran " + what, desk.ran(what), want[what]);
-        }
-    }
-
-    private static void due(String where, String what, int got, int want) {
-        if (got != want && failures++ < 20) {
-            System.out.println(where + ": " + what + " answered " + got + ", due is " + want);
+            Checks.due(where + ": ran " + what, desk.ran(what), want[what]);
         }
     }
 
@@ -92,7 +107,7 @@ public final class AgainstModel {
         return (int) ((seed >>> 33) % bound);
     }
 
-    private static void write(WarpDesk desk, Model model) {
+    private static void write(List<Consumer<Desk>> calls, Model model) {
         List<Token> made = new ArrayList<>();
         writeRow(made, 0, 1 + below(6));
         int spoilt = below(5);
@@ -102,9 +117,8 @@ public final class AgainstModel {
             made.remove(below(made.size()));
         }
         for (Token token : made) {
-            if (desk.token(token.kind, token.value) != WarpDesk.NONE) {
-                model.tokens.add(token);
-            }
+            int answer = model.token(token);
+            calls.add(desk -> Checks.due("token " + token, desk.token(token.kind, token.value), answer));
         }
     }
 
@@ -232,6 +246,16 @@ public final class AgainstModel {
         private int expressionStart;
         private int argument;
         private Replay[] replays;
+
+        int token(Token token) {
+            int k = token.kind;
+            boolean known = k >= 0 && k < 32 && k != 9 && (k < 17 || k > 19);
+            if (!known || (k == 0 || k == 11) && (token.value < 0 || token.value > 5) || tokens.size() == 64) {
+                return -1;
+            }
+            tokens.add(token);
+            return tokens.size();
+        }
 
         int wrong() {
             try {
